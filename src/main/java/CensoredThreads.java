@@ -19,6 +19,7 @@ public final class CensoredThreads {
     private static final int MOST_WORDS = 8;
     private static final int MOST_WEEKS = 9999;
     private static final int MOST_PAD = 60;
+    private static final int MOST_PUT = 8;
     private static final int MOST_PAST = 4;
     private static final int MOST_LIMIT = 8;
     private static final int LONGEST_PASS = 52;
@@ -100,10 +101,13 @@ public final class CensoredThreads {
         /** The places, as a set, whose words are among these. */
         int placesOf(int wordSet) {
             int places = 0;
+            long rest = words;
             for (int place = 0; place < wordCount; place++) {
-                if (((wordSet >>> (codeAt(place) - 'a')) & 1) != 0) {
+                int word = (int) (rest & 255L) - 'a';
+                if (((wordSet >>> word) & 1) != 0) {
                     places = places | (1 << place);
                 }
+                rest = rest >>> 8;
             }
             return places;
         }
@@ -721,12 +725,14 @@ public final class CensoredThreads {
     /** How many characters are given, 0 if any of them, or what stands above them, is wrong. */
     private static int lengthOf(long characters) {
         int length = 0;
-        for (long rest = characters; rest != 0L; rest = rest >>> 8) {
+        long rest = characters;
+        while (length < MOST_PUT && rest != 0L) {
             int code = (int) (rest & 255L);
             // A code 0 with more above it is refused here, too.
             if (code < 33 || code > 126) {
                 return 0;
             }
+            rest = rest >>> 8;
             length++;
         }
         return length;
