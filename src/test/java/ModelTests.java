@@ -1,7 +1,9 @@
-/** Long runs of calls, made from fixed seeds, in which CensoredThreads and Model must answer alike. */
+/** Long runs of calls, made from fixed seeds, in which CensoredThreads and Model must answer alike: 512 calls at most. */
 public final class ModelTests {
-    private static final int RUNS = 300;
-    private static final int STEPS = 256;
+    private static final int RUNS = 2000;
+    private static final int MOST_CALLS = 512;
+    // More than the longest step makes: all that can be asked of the censors is 24 calls.
+    private static final int CALLS_A_STEP = 32;
     private static final int[] EDGES = {-1, Integer.MIN_VALUE, Integer.MAX_VALUE};
 
     private final Due due;
@@ -9,6 +11,7 @@ public final class ModelTests {
     private final Model m = new Model();
     private final int run;
     private long seed;
+    private int calls = 0;
 
     private ModelTests(Due due, int run) {
         this.due = due;
@@ -19,7 +22,7 @@ public final class ModelTests {
     public static void main(String[] args) {
         Due due = new Due();
         for (int run = 0; run < RUNS && due.failures() < 20; run++) {
-            new ModelTests(due, run).calls();
+            new ModelTests(due, run).steps();
         }
         due.end("ModelTests");
     }
@@ -39,14 +42,14 @@ public final class ModelTests {
         return about(Math.max(1, m.count(4)));
     }
 
-    private void calls() {
+    private void steps() {
         // Some runs begin with many words to strike, so that letters are turned back and burnt.
         for (int i = below(30); i > 0; i--) {
             int censor = below(4);
             int word = below(5);
             same("strike", x.strike(censor, word), m.strike(censor, word));
         }
-        for (int i = 0; i < STEPS; i++) {
+        while (calls <= MOST_CALLS - CALLS_A_STEP) {
             if (below(2) == 0) {
                 change(below(24));
             } else {
@@ -119,32 +122,39 @@ public final class ModelTests {
             case 15: a = 1 + below(6); b = below(3); same("ifPassed " + a + " " + b, x.ifPassed(a, b), m.ifPassed(a, b)); break;
             case 16: case 17: case 18: same("bestTrade", x.bestTrade(), m.bestTrade()); break;
             case 19: case 20: same("leastLimit", x.leastLimit(), m.leastLimit()); break;
-            default: everything(); break;
+            case 21: allCounts(); break;
+            case 22: allOfCensors(); break;
+            default: allOfLetter(a); break;
         }
     }
 
-    private void everything() {
+    private void allCounts() {
         for (int what = 0; what < 16; what++) {
             same("count " + what, x.count(what), m.count(what));
         }
+    }
+
+    private void allOfCensors() {
         for (int censor = 0; censor < 4; censor++) {
             for (int what = 0; what < 5; what++) {
                 same("censor " + censor + " " + what, x.censor(censor, what), m.censor(censor, what));
             }
             same("onShift " + censor, x.onShift(censor, 0), m.onShift(censor, 0));
         }
-        for (int letter = 0; letter < m.count(4); letter++) {
-            same("why " + letter, x.why(letter), m.why(letter));
-            for (int what = 0; what < 11; what++) {
-                same("letter " + letter + " " + what, x.letter(letter, what), m.letter(letter, what));
-            }
-            for (int place = 0; place < 9; place++) {
-                same("word " + letter + " " + place, x.word(letter, place), m.word(letter, place));
-            }
+    }
+
+    private void allOfLetter(int letter) {
+        same("why " + letter, x.why(letter), m.why(letter));
+        for (int what = 0; what < 11; what++) {
+            same("letter " + letter + " " + what, x.letter(letter, what), m.letter(letter, what));
+        }
+        for (int place = 0; place < 9; place++) {
+            same("word " + letter + " " + place, x.word(letter, place), m.word(letter, place));
         }
     }
 
     private void same(String call, long got, long want) {
+        calls++;
         due.is("run " + run + ": " + call, got, want);
     }
 }

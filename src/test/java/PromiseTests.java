@@ -1,4 +1,7 @@
-/** One test a promise of ../shared/DOC.md, with answers worked out by hand. */
+/**
+ * The promises 1 to 21 of ../shared/DOC.md in use, with answers worked out by hand. Single sentences, edges, refused calls,
+ * save and restore stand in the other tests.
+ */
 public final class PromiseTests {
     private static final int NO_SUCH = -1, BAD_VALUE = -2, BAD_TEXT = -3, TOO_MANY = -4, NOT_POSSIBLE = -5, NONE = -6;
     private static final int READS = 0, LIMIT = 1, TURNS = 2;
@@ -34,10 +37,6 @@ public final class PromiseTests {
         wipe();
         fault();
         undo();
-        undoOfEachChange();
-        errorsRecordNothing();
-        saveAndRestore();
-        questionsChangeNothing();
         due.end("PromiseTests");
     }
 
@@ -726,150 +725,5 @@ public final class PromiseTests {
         is("21 undone", x.count(1), 2);
         x.restore(0);
         is("21 the slots are not undone", x.count(1), 5);
-    }
-
-    private static void undoOfEachChange() {
-        CensoredThreads x = Due.withLetters("0>ab,0<c,1>aab,2>d");
-        x.strike(0, 0);
-        x.strike(1, 2);
-        x.save(0);
-        x.pass(1);
-        int[] before = all(x);
-        x.pass(3);
-        x.undo();
-        same("21 pass", x, before);
-        x.burn(1);
-        x.undo();
-        same("21 burn", x, before);
-        x.strike(2, 7);
-        x.undo();
-        same("21 strike", x, before);
-        x.trade(0, 5);
-        x.undo();
-        same("21 trade", x, before);
-        x.restore(0);
-        x.undo();
-        same("21 restore", x, before);
-        Due.putAll(x, "4>ab,4<x");
-        x.read();
-        x.undo();
-        same("21 read", x, before);
-        x.set(TURNS, 5);
-        x.undo();
-        same("21 set", x, before);
-    }
-
-    private static void errorsRecordNothing() {
-        CensoredThreads x = Due.withLetters("0>a");
-        x.pass(1);
-        int[] before = all(x);
-        x.set(3, 0);
-        x.strike(4, 0);
-        x.trade(0, 0);
-        x.trade(0, 8);
-        x.read();
-        x.burn(0);
-        x.burn(1);
-        x.pass(0);
-        x.restore(0);
-        x.restore(2);
-        x.save(2);
-        is("21 errors are not recorded", x.count(15), 2);
-        same("21 errors change nothing", x, before);
-    }
-
-    // Promises 22 and 23
-    private static void saveAndRestore() {
-        CensoredThreads x = Due.withLetters("0>ab,0<c,1>aab,2>d");
-        for (int wrong : new int[] {-1, 2, LOW, HIGH}) {
-            is("22 save(" + wrong + ")", x.save(wrong), BAD_VALUE);
-            is("23 restore(" + wrong + ")", x.restore(wrong), BAD_VALUE);
-        }
-        is("23 nothing saved", x.restore(1), NOT_POSSIBLE);
-        x.strike(0, 0);
-        x.pass(2);
-        int[] early = all(x);
-        is("22 save", x.save(1), 2);
-        is("22 no change", x.count(15), 3);
-        is("23 the other slot", x.restore(0), NOT_POSSIBLE);
-        x.trade(0, 1);
-        x.set(LIMIT, 7);
-        Due.putAll(x, "3>ab");
-        x.read();
-        x.pass(9);
-        int[] late = all(x);
-        is("22 save in the other", x.save(0), 11);
-        Due.putAll(x, "3<");
-        is("23 restore", x.restore(1), 2);
-        same("23 restored", x, early);
-        is("23 the pad stays", x.count(14), 2);
-        is("23 a change", x.count(15), 4);
-        is("23 restore the other", x.restore(0), 11);
-        same("23 restored the other", x, late);
-        is("23 the slot keeps it", x.restore(1), 2);
-        same("23 restored again", x, early);
-        is("21 undo of restore", x.undo(), 3);
-        same("21 undone restore", x, late);
-        is("22 overwrite", x.save(1), 11);
-        x.pass(1);
-        x.restore(1);
-        same("22 overwritten", x, late);
-    }
-
-    private static void questionsChangeNothing() {
-        CensoredThreads x = Due.withLetters("0>aab,0<c,1>aaa,2<ccc,3>a");
-        x.strike(0, 0);
-        x.strike(1, 2);
-        Due.putAll(x, "1>");
-        int[] before = all(x);
-        for (int letter = 0; letter < 5; letter++) {
-            x.untilCome(letter);
-            x.why(letter);
-        }
-        x.ifPassed(100, 0);
-        x.bestTrade();
-        x.leastLimit();
-        x.fault();
-        x.save(0);
-        same("14 to 17 change nothing", x, before);
-        is("14 to 17 are no changes", x.count(15), 3);
-        is("14 to 17 leave the pad", x.count(14), 2);
-    }
-
-    /** All that can be asked of the state, but for the pad and the history. */
-    private static int[] all(CensoredThreads x) {
-        int[] answers = new int[1000];
-        int n = 0;
-        for (int what = 0; what < 14; what++) {
-            answers[n++] = x.count(what);
-        }
-        for (int censor = 0; censor < 4; censor++) {
-            for (int what = 0; what < 5; what++) {
-                answers[n++] = x.censor(censor, what);
-            }
-            answers[n++] = x.onShift(censor, 0);
-            answers[n++] = x.onShift(censor, 1);
-        }
-        for (int letter = 0; letter <= x.count(4); letter++) {
-            answers[n++] = x.why(letter);
-            for (int what = 0; what < 11; what++) {
-                answers[n++] = x.letter(letter, what);
-            }
-            for (int place = 0; place < 9; place++) {
-                answers[n++] = x.word(letter, place);
-            }
-        }
-        return answers;
-    }
-
-    private static void same(String when, CensoredThreads x, int[] before) {
-        int[] after = all(x);
-        for (int i = 0; i < before.length; i++) {
-            if (before[i] != after[i]) {
-                is(when + ", answer " + i, after[i], before[i]);
-                return;
-            }
-        }
-        is(when, 0, 0);
     }
 }
