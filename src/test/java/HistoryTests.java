@@ -23,6 +23,9 @@ public final class HistoryTests extends Sentences {
         restoreKeeps();
         restoreIsAChange();
         restoreLeavesPadAndHistory();
+        restoreOfOtherLetters();
+        undoToOtherLetters();
+        lettersWrittenAnew();
         end("HistoryTests");
     }
 
@@ -421,5 +424,112 @@ public final class HistoryTests extends Sentences {
         x.restore(1);
         is("the other slot stays", x.count(READS), 4);
         is("the text of the pad", x.read(), 2);
+    }
+
+    /** Letters with the same numbers as those of others, but alike in nothing else. */
+    private static void some(CensoredThreads x) {
+        allStrike(x, 'a');
+        x.pass(2);
+        write(x, "0<aab,4>aaa,1>abcdefgh,2<c,0>k");
+        x.pass(1);
+        x.untilCome(1);
+        x.bestTrade();
+        x.leastLimit();
+    }
+
+    private static void others(CensoredThreads x) {
+        x.strike(2, 1);
+        write(x, "3>zzb,1<y,0>aaa,2>bbb,1>q,4<r");
+    }
+
+    private static void othersLater(CensoredThreads x) {
+        others(x);
+        x.pass(3);
+        x.untilCome(5);
+    }
+
+    /** What is left of history and slots is the state of now alone. */
+    private static void nowAlone(CensoredThreads x) {
+        x.save(0);
+        x.save(1);
+        forget(x);
+    }
+
+    private static void restoreOfOtherLetters() {
+        says("Restores what was saved last in a slot, which keeps it.");
+        alike("some letters behind others", x -> {
+            x.save(1);
+            some(x);
+            x.save(0);
+            x.restore(1);
+            othersLater(x);
+            x.restore(0);
+            nowAlone(x);
+        }, x -> {
+            some(x);
+            nowAlone(x);
+        });
+        alike("others behind some letters", x -> {
+            x.save(1);
+            othersLater(x);
+            x.save(0);
+            x.restore(1);
+            some(x);
+            x.restore(0);
+            nowAlone(x);
+        }, x -> {
+            othersLater(x);
+            nowAlone(x);
+        });
+    }
+
+    private static void undoToOtherLetters() {
+        says("everything except the pad, the slots and the history is as it was before it.");
+        alike("undo of a restore", x -> {
+            x.save(1);
+            some(x);
+            x.save(0);
+            x.restore(1);
+            othersLater(x);
+            x.restore(0);
+            x.undo();
+            nowAlone(x);
+        }, x -> {
+            othersLater(x);
+            nowAlone(x);
+        });
+    }
+
+    private static void lettersWrittenAnew() {
+        says("everything except the pad, the slots and the history is as it was before it.");
+        CensoredThreads x = fresh();
+        allStrike(x, 'a');
+        write(x, "0>aab,1>aaa");
+        x.pass(2);
+        is("come", x.letter(0, WHERE), COME);
+        is("burnt", x.letter(1, WHERE), BURNT);
+        x.undo();
+        x.undo();
+        is("the letters are undone", x.count(LETTERS), 0);
+        write(x, "2<abc,3<d");
+        int[][] due = {{2, 1, WAITING, 0, 0, NONE, 0, 0, NONE, NONE, 3}, {3, 1, WAITING, 1, 0, NONE, 0, 0, NONE, NONE, 1}};
+        for (int letter = 0; letter < 2; letter++) {
+            for (int what = 0; what <= 10; what++) {
+                is("written anew, letter(" + letter + ", " + what + ")", x.letter(letter, what), due[letter][what]);
+            }
+        }
+        for (int place = 0; place < 3; place++) {
+            is("written anew, word " + place, x.word(0, place), 'a' + place);
+        }
+        alike("written in a state that was restored", y -> {
+            y.save(1);
+            some(y);
+            y.restore(1);
+            others(y);
+            nowAlone(y);
+        }, y -> {
+            others(y);
+            nowAlone(y);
+        });
     }
 }

@@ -69,6 +69,12 @@ final class Whole {
         for (int letter = 0; letter < letters; letter++) {
             askOfLetter(ending, end, letter);
         }
+        for (int what = 0; what < 3; what++) {
+            int w = what;
+            ask(ending, end, "ifPassed(4, " + w + ")", o -> o.ifPassed(4, w));
+        }
+        ask(ending, end, "bestTrade()", o -> o.bestTrade());
+        ask(ending, end, "leastLimit()", o -> o.leastLimit());
         ask(ending, end, "fault()", o -> o.fault());
     }
 
@@ -83,6 +89,7 @@ final class Whole {
 
     private void askOfLetter(String ending, ToIntFunction<CensoredThreads> end, int letter) {
         ask(ending, end, "why(" + letter + ")", o -> o.why(letter));
+        ask(ending, end, "untilCome(" + letter + ")", o -> o.untilCome(letter));
         for (int what = 0; what <= 10; what++) {
             int w = what;
             ask(ending, end, "letter(" + letter + ", " + w + ")", o -> o.letter(letter, w));
