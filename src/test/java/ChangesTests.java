@@ -380,5 +380,8 @@ public final class ChangesTests extends Sentences {
         passUpTo(z, 9998);
         is("9998 and 2", z.pass(2), TOO_MANY);
         is("9998 and 1", z.pass(1), 0);
+        z.undo();
+        is("one is undone, and passes again", z.pass(1), 0);
+        is("and no more", z.pass(1), TOO_MANY);
     }
 }

@@ -351,6 +351,12 @@ public final class HistoryTests extends Sentences {
         is("the week 0", x.restore(0), 0);
         is("the week 5", x.restore(1), 5);
         is("weeks", x.count(WEEKS), 5);
+        passUpTo(x, 9999);
+        x.save(0);
+        is("back from the week 9999", x.restore(1), 5);
+        is("a week passes there", x.pass(1), 0);
+        is("the week 9999", x.restore(0), 9999);
+        is("no week passes there", x.pass(1), TOO_MANY);
         for (int wrong : new int[] {-1, 2, 3, LOW, HIGH}) {
             is("restore(" + wrong + ")", x.restore(wrong), BAD_VALUE);
         }
