@@ -29,7 +29,7 @@ abstract class Sentences {
     private static String sentence = "";
 
     /** The document, "" if it is not there: then the answers alone are looked at. */
-    private static String documentInOneLine() {
+    static String documentInOneLine() {
         try {
             return Files.readString(Path.of("../shared/DOC.md")).replaceAll("\\s+", " ");
         } catch (IOException e) {
